@@ -1329,11 +1329,11 @@ public final class RingRunners {
 
         // As apartBy, for the nearest one.
         int nearestBy(int x, int e) {
-            return nearestBy(x, e, 0);
+            return nearestUnlessBelow(x, e, 0);
         }
 
-        // As apartBy, for the nearest one; any lesser number than enough, once it is less than that.
-        int nearestBy(int x, int e, int enough) {
+        // As nearestBy; where the nearest one is nearer than enough, some number below that.
+        int nearestUnlessBelow(int x, int e, int enough) {
             int least = TWELFTHS * e / 2;
             for (int r = 0; r < size && least >= enough; r++) {
                 least = Math.min(least, apartBy(r, x, e));
@@ -1416,7 +1416,7 @@ public final class RingRunners {
             int x = Math.floorMod(-lead, TWELFTHS);
             for (int n = 0; n < gap && heightParts > 0; n++) {
                 // Rounded down: whatever is less can't be as high.
-                int near = others.nearestBy(x, gap, height * parts / heightParts);
+                int near = others.nearestUnlessBelow(x, gap, height * parts / heightParts);
                 int more = near * heightParts - height * parts;
                 if (more > 0 || more == 0 && x * timeParts < time * parts) {
                     height = near;

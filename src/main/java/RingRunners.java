@@ -627,37 +627,11 @@ public final class RingRunners {
     }
 
     public int kindest(int i, int j) {
-        if (!now.hasBoth(i, j)) {
-            return NONE;
-        }
-        trial.become(now);
-        peak.forgetBetter();
-        int kindest = 0;
-        for (int v = 0; v <= MOST_SPEED; v++) {
-            trial.setSpeed(j, v);
-            peak.seek(trial, i);
-            if (peak.isBetter()) {
-                kindest = v;
-            }
-        }
-        return kindest;
+        return now.hasBoth(i, j) ? kindestNumber(i, j, MOST_SPEED, false) : NONE;
     }
 
     public int kindestStart(int i, int j) {
-        if (!now.hasBoth(i, j)) {
-            return NONE;
-        }
-        trial.become(now);
-        peak.forgetBetter();
-        int kindest = 0;
-        for (int s = 0; s < TWELFTHS; s++) {
-            trial.setStart(j, s);
-            peak.seek(trial, i);
-            if (peak.isBetter()) {
-                kindest = s;
-            }
-        }
-        return kindest;
+        return now.hasBoth(i, j) ? kindestNumber(i, j, TWELFTHS - 1, true) : NONE;
     }
 
     public int harsh(int i, int j) {
@@ -699,6 +673,24 @@ public final class RingRunners {
             }
         }
         return loneliest;
+    }
+
+    private int kindestNumber(int i, int j, int most, boolean isStart) {
+        trial.become(now);
+        peak.forgetBetter();
+        int kindest = 0;
+        for (int v = 0; v <= most; v++) {
+            if (isStart) {
+                trial.setStart(j, v);
+            } else {
+                trial.setSpeed(j, v);
+            }
+            peak.seek(trial, i);
+            if (peak.isBetter()) {
+                kindest = v;
+            }
+        }
+        return kindest;
     }
 
     // ---- texts

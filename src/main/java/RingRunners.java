@@ -1670,7 +1670,8 @@ public final class RingRunners {
             measureFor(field, (1 << MOST_RUNNERS) - 1, field.size());
             for (int r = 0; r < field.size() && r < MOST_RUNNERS; r++) {
                 watchLonely(field, r);
-                firstTimes[r] = spans.size() == 0 ? Long.MAX_VALUE : spans.fromAt(0);
+                // Who never is lonely comes behind every time of 0 to 1.
+                firstTimes[r] = spans.size() == 0 ? scale + 1 : spans.fromAt(0);
             }
         }
 

@@ -1,7 +1,7 @@
 import java.util.TreeSet;
 
 /** Counts answers that are not the due ones, promise by promise. */
-final class Checks {
+class Checks {
     private final TreeSet<Integer> checked = new TreeSet<>();
     private int promise = 0;
     private int wrong = 0;
@@ -35,7 +35,8 @@ final class Checks {
                 System.out.println("promise " + n + " was not checked");
             }
         }
-        System.out.println(wrong == 0 ? "promises " + firstPromise + " to " + lastPromise + " hold" : wrong + " wrong");
+        String which = lastPromise == 0 ? "the terms" : "promises " + firstPromise + " to " + lastPromise;
+        System.out.println(wrong == 0 ? which + " hold" : wrong + " wrong");
         if (wrong != 0) {
             System.exit(1);
         }
@@ -76,7 +77,8 @@ final class Checks {
 
     static String state(RingRunners x) {
         StringBuilder text = new StringBuilder();
-        for (int n = 0; n < x.spell(-1); n++) {
+        int length = x.spell(-1);
+        for (int n = 0; n < length; n++) {
             text.append((char) x.spell(n));
         }
         return text.toString();

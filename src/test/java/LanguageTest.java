@@ -50,7 +50,8 @@ public final class LanguageTest {
         String[] patterns = {"\\bthrows?\\b", "\\btry\\b", "\\bcatch\\b", "\\bsynchronized\\b", "\\bassert\\b",
             "\\bimport\\b", "\\bpackage\\b", "->", "::", "Exact\\(", "\\bequals\\(", "\\bhashCode\\(",
             "\\btoString\\(", "\\bvolatile\\b", "\\bThread\\b", "Random", "\\bSystem\\.(?!arraycopy)",
-            "\\bdouble\\b", "\\bfloat\\b", "\\bprotected\\b", "while \\(true\\)", "for \\(;;\\)", "@", "\\bvar\\b"};
+            "\\bdouble\\b", "\\bfloat\\b", "\\bprotected\\b", "while \\(true\\)", "for \\(;;\\)", "@", "\\bvar\\b",
+            "\\b(Integer|Long)\\.[A-Z]"};
         for (String pattern : patterns) {
             Matcher found = Pattern.compile(pattern).matcher(bare);
             if (found.find()) {

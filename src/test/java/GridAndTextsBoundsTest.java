@@ -168,6 +168,7 @@ public final class GridAndTextsBoundsTest {
         S.due("prime of one", Checks.with(40, 0).prime(), 2);
         S.due("prime of two", Checks.with(40, 0, 39, 0).prime(), 2);
         S.due("prime of three", Checks.with(0, 0, 1, 0, 2, 0).prime(), 3);
+        S.due("prime of four", Checks.with(0, 0, 1, 0, 2, 0, 3, 0).prime(), 5);
         S.due("prime of six", Checks.with(0, 0, 1, 0, 2, 0, 3, 0, 4, 0, 5, 0).prime(), 7);
         S.due("prime 11", Checks.with(0, 0, 1, 0, 2, 0, 3, 0, 4, 0, 7, 0).prime(), 11);
         S.due("prime 13", Checks.with(0, 0, 1, 0, 2, 0, 3, 0, 4, 0, 11, 0).prime(), 13);

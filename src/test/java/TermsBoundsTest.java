@@ -438,8 +438,8 @@ public final class TermsBoundsTest {
     }
 
     private static void fractions() {
-        S.says(0, "A fraction is told in lowest terms (0 as 0 by 1): the upper part (lower false), the lower one (lower "
-            + "true).");
+        S.says(0, "A fraction is told in lowest terms (0 as 0 by 1): the upper part (lower false), "
+            + "the lower one (lower true).");
         RingRunners x = Checks.with(0, 0, 1, 0, 1, 6);
         S.dueFraction("place", lower -> x.place(1, 500, 750, lower), 2, 3);
         S.dueFraction("place", lower -> x.place(0, 500, 750, lower), 0, 1);

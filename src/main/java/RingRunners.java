@@ -21,8 +21,8 @@ public final class RingRunners {
     private final Field[] marks = {new Field(), new Field(), new Field()};
     private final boolean[] marked = new boolean[MARKS];
     private final History history = new History();
-    private final Tape tape = new Tape();
-    private final Reader reader = new Reader(tape);
+    private final Reader reader = new Reader();
+    private final Tape tape = reader.tape();
     private final Instant instant = new Instant();
     private final Others others = new Others();
     private final Peak peak = new Peak();
@@ -1048,14 +1048,14 @@ public final class RingRunners {
         }
     }
 
-    /** Reads the tape as a text. */
+    /** Holds a tape and reads it as a text. */
     private static final class Reader {
-        private final Tape tape;
+        private final Tape tape = new Tape();
         private int at = 0;
         private int fault = NONE;
 
-        Reader(Tape tape) {
-            this.tape = tape;
+        Tape tape() {
+            return tape;
         }
 
         // The first byte that can't stand there, NONE if all can.

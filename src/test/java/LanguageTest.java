@@ -51,7 +51,7 @@ public final class LanguageTest {
             "\\bimport\\b", "\\bpackage\\b", "->", "::", "Exact\\(", "\\bequals\\(", "\\bhashCode\\(",
             "\\btoString\\(", "\\bvolatile\\b", "\\bThread\\b", "Random", "\\bSystem\\.(?!arraycopy)",
             "\\bdouble\\b", "\\bfloat\\b", "\\bprotected\\b", "while \\(true\\)", "for \\(;;\\)", "@", "\\bvar\\b",
-            "\\b(Integer|Long)\\.[A-Z]"};
+            "\\b(Integer|Long)\\.[A-Z]", "(private|final) [^=;(]*= new \\w+\\([a-z]", "[(,] ?this\\b(?!\\.)"};
         for (String pattern : patterns) {
             Matcher found = Pattern.compile(pattern).matcher(bare);
             if (found.find()) {
